@@ -357,6 +357,8 @@ public final class PromiseTest {
         faultIs("   ", 3);
         faultIs("folow", 0);
         faultIs("followw", 0);
+        faultIs("cleanz", 0);
+        faultIs("acleana", 0);
         faultIs(" Follow", 1);
         faultIs("follow clean", 7);
         faultIs("follow yes", 7);
@@ -562,6 +564,25 @@ public final class PromiseTest {
         due.is("came out of another one", x.bound(0, 40), 0);
         x.pact(OF_RANK, 4, 0, 0, 41);
         due.is("of a later pact", x.bound(1, 41), 32);
+        PartedLand y = four();
+        y.pact(OF_RANK, 0, 0, 0, 0);
+        y.change(PART, 5, 0, 0, 1);
+        y.change(PART, 5, 0, 0, 2);
+        y.change(PART, 5, 1, 0, 0);
+        y.change(GIVE, 6, 0, 1, 4);
+        y.change(GIVE, 6, 1, 0, 4);
+        y.change(SAME, 6, 2, 0, 0);
+        y.voice(0, 1, true, 6);
+        due.is("said by one, yes of the other", y.bound(0, 6), 1);
+        y.voice(1, 2, true, 7);
+        due.is("both of one", y.bound(0, 7), 4);
+        y.voice(1, 1, false, 7);
+        y.voice(2, 0, false, 7);
+        due.is("voices of others don't count", y.bound(0, 7), 4);
+        for (int third = 0; third < 6; third++) y.voice(third, 2, third < 3, 8);
+        due.is("three of six", y.bound(0, 8), 1);
+        y.voice(5, 2, true, 9);
+        due.is("four of six", y.bound(0, 9), 4);
     }
 
     private static void boundByTradeFollow() {
@@ -639,6 +660,14 @@ public final class PromiseTest {
         z.word(0, 2, false, false, 6);
         z.change(JOIN, 5, 1, 2, 0);
         due.is("no came too late", z.bound(0, 6), 3);
+        PartedLand w = four();
+        w.change(PART, 1, 0, 0, 1);
+        w.change(PART, 1, 0, 0, 2);
+        w.pact(OF_TRADE, 0, 0, 0, 3);
+        w.change(PART, 4, 0, 0, 4);
+        w.change(JOIN, 5, 1, 3, 0);
+        w.change(JOIN, 6, 2, 0, 0);
+        due.is("two that joined", w.bound(0, 6), 6);
     }
 
     private static void boundByTradeClean() {
@@ -681,6 +710,13 @@ public final class PromiseTest {
         due.is("yes two days behind", y.bound(0, 9), 3);
         rule(y, "clean;within 2;silence yes");
         due.is("yes within two days", y.bound(0, 9), 7);
+        rule(y, "clean;within 1;silence yes");
+        y.pact(OF_TRADE, 0, 0, 0, 0);
+        y.word(1, 2, false, true, 7);
+        y.word(0, 1, false, true, 7);
+        y.word(0, 2, true, true, 7);
+        y.word(0, 2, false, false, 7);
+        due.is("others' first yes", y.bound(0, 9), 3);
     }
 
     private static void boundOnOneDay() {
@@ -950,6 +986,20 @@ public final class PromiseTest {
         y.pact(OF_RANK, 0, 0, 0, 64);
         y.pact(OF_RANK, 0, 0, 0, 63);
         due.is("of several the first", y.hangs(999, 1), 63);
+        y.pact(OF_RANK, 0, 0, 0, 0);
+        due.is("day 0 is none of them", y.hangs(62, 1), 1);
+        y.voice(0, 0, true, 40);
+        due.is("a day on which nothing turned", y.hangs(62, 1), 1);
+        PartedLand z = four();
+        z.pact(OF_RANK, 0, 0, 0, 1);
+        z.pact(OF_TRADE, 0, 0, 0, 2);
+        due.is("day 1", z.hangs(999, 1), 1);
+        z.change(PART, 3, 0, 0, 1);
+        z.change(PART, 3, 0, 0, 2);
+        z.word(1, 1, false, false, 3);
+        due.is("without the word it were day 3", z.hangs(999, 1), 1);
+        z.word(1, 1, false, true, 3);
+        due.is("with the other word it is", z.hangs(999, 1), 3);
         for (int d : new int[] {0, -1, 1000, LOWEST, HIGHEST}) {
             due.is("no day", x.hangs(d, 0), OUTSIDE);
             due.is("no day", x.hangs(d, 1), OUTSIDE);
