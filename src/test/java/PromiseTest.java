@@ -357,6 +357,7 @@ public final class PromiseTest {
         faultIs("   ", 3);
         faultIs("folow", 0);
         faultIs("followw", 0);
+        faultIs("gollow", 0);
         faultIs("cleanz", 0);
         faultIs("acleana", 0);
         faultIs(" Follow", 1);
@@ -397,6 +398,19 @@ public final class PromiseTest {
 
     private static void faultOfLines() {
         due.part("11 fault of lines");
+        PartedLand x = new PartedLand();
+        write(x, "      7");
+        x.erase();
+        write(x, "within");
+        due.is("what was erased is not read", x.fault(), 6);
+        x.erase();
+        for (int i = 0; i < 19; i++) write(x, "        ");
+        write(x, "  within");
+        due.is("at the end of a full text", x.fault(), 160);
+        x.erase();
+        for (int i = 0; i < 19; i++) write(x, "        ");
+        write(x, "within 9");
+        due.is("a full text", x.fault(), NONE);
         faultIs(";", 0);
         faultIs("follow;", 7);
         faultIs("follow; ", 8);
@@ -583,6 +597,17 @@ public final class PromiseTest {
         due.is("three of six", y.bound(0, 8), 1);
         y.voice(5, 2, true, 9);
         due.is("four of six", y.bound(0, 9), 4);
+        y.voice(4, 2, true, 10);
+        y.voice(3, 2, false, 11);
+        due.is("five of six, the latest is no", y.bound(0, 11), 4);
+        PartedLand z = four();
+        z.pact(OF_RANK, 0, 0, 0, 0);
+        z.change(PART, 5, 0, 0, 1);
+        z.change(SAME, 5, 1, 0, 0);
+        z.voice(0, 1, true, 9);
+        z.voice(0, 1, false, 8);
+        due.is("told first, but the latest by days", z.bound(0, 9), 2);
+        due.is("ahead of it", z.bound(0, 8), 1);
     }
 
     private static void boundByTradeFollow() {
@@ -611,6 +636,12 @@ public final class PromiseTest {
         due.is("came out of one that was not", x.bound(0, 10), 1);
         x.change(FALL, 12, 0, 0, 0);
         due.is("both behind no more", x.bound(0, 12), 1);
+        PartedLand z = four();
+        z.pact(OF_TRADE, 0, 0, 0, 3);
+        z.change(PART, 5, 0, 0, 7);
+        z.word(0, 1, false, true, 8);
+        z.word(0, 1, false, false, 7);
+        due.is("told first, but the latest by days", z.bound(0, 8), 3);
         PartedLand y = four();
         y.pact(OF_TRADE, 0, 0, 0, 3);
         y.pact(OF_TRADE, 0, 0, 0, 3);
