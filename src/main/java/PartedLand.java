@@ -477,8 +477,9 @@ public final class PartedLand {
             Arrays.fill(read, 0);
             read[WITHIN] = FIRST_WITHIN;
             end = 0;
-            for (lines = 1; lines <= MOST_LINES; lines++) {
+            for (int line = 1; line <= MOST_LINES; line++) {
                 if (!readLine()) return start;
+                lines = line;
                 nextToken();
                 if (start >= length) return NONE;
                 if (bytes[start] != SEMICOLON) return start;
