@@ -296,6 +296,9 @@ public final class PartedLand {
         final int[] a = new int[MOST_CHANGES];
         final int[] b = new int[MOST_CHANGES];
         final int[] firstThatCame = new int[MOST_CHANGES];
+        // grounds, by bits, of a land that parts or falls: those that the first new land has, and the others
+        final int[] setOfFirst = new int[MOST_CHANGES];
+        final int[] setOfOthers = new int[MOST_CHANGES];
         int changeCount = 0;
 
         // row and place n: behind the first n changes
@@ -360,6 +363,8 @@ public final class PartedLand {
             a[now] = itsA;
             b[now] = itsB;
             firstThatCame[now] = first;
+            setOfFirst[now] = set;
+            setOfOthers[now] = held[now][itsA] & ~set;
             System.arraycopy(held[now], 0, held[now + 1], 0, MOST_LANDS);
             there[now + 1] = there[now];
             changeCount++;
@@ -420,9 +425,7 @@ public final class PartedLand {
             if (change < 0) return land;
             if (kind[change] == JOIN) return a[change];
             int first = firstThatCame[change];
-            int other = first + 1;
-            int[] then = held[change + 1];
-            return sumOf(heads, then[first]) >= sumOf(heads, then[other]) ? first : other;
+            return sumOf(heads, setOfFirst[change]) >= sumOf(heads, setOfOthers[change]) ? first : first + 1;
         }
 
         boolean saidSame(int land, int done) {
@@ -435,7 +438,7 @@ public final class PartedLand {
         int sumOf(int[] numbers, int set) {
             int sum = 0;
             for (int ground = 0; ground < groundCount; ground++) {
-                if (isIn(set, ground)) sum += numbers[ground];
+                if ((set >> ground & 1) != 0) sum += numbers[ground];
             }
             return sum;
         }
@@ -578,7 +581,7 @@ public final class PartedLand {
             int latest = NONE;
             for (int i = 0; i < wordCount; i++) {
                 if (pact[i] != ofPact || land[i] != ofLand || byThird[i] != ofThird) continue;
-                if (day[i] > lastDay || isIn(leftOut, i)) continue;
+                if (day[i] > lastDay || (leftOut >> i & 1) != 0) continue;
                 if (latest < 0 || day[i] >= day[latest]) latest = i;
             }
             if (latest < 0) return NONE;
@@ -590,7 +593,7 @@ public final class PartedLand {
             int first = LAST_DAY + 1;
             for (int i = 0; i < wordCount; i++) {
                 if (pact[i] != ofPact || land[i] != ofLand || byThird[i] || !yes[i]) continue;
-                if (!isIn(leftOut, i) && day[i] < first) first = day[i];
+                if ((leftOut >> i & 1) == 0 && day[i] < first) first = day[i];
             }
             return first;
         }
@@ -726,10 +729,7 @@ public final class PartedLand {
         /** Whether a land that is there is bound by a pact of trade. */
         private boolean isHeld(int pact, int land, int onDay, int leftOut) {
             if (land == signer[pact] || isIn(joined, land)) return true;
-            return isIn(cameOut, land) && isHeldByWords(pact, land, onDay, leftOut);
-        }
-
-        private boolean isHeldByWords(int pact, int land, int onDay, int leftOut) {
+            if (!isIn(cameOut, land)) return false;
             int own = words.latest(pact, land, false, onDay, leftOut);
             if (text.rule[CLEAN] == 0) return own != NO;
             if (own != YES) return false;
@@ -891,8 +891,8 @@ public final class PartedLand {
         }
 
         private int partOfFirst(int amount, int change, int share) {
-            int key = keyOfFirst(change, share);
-            int both = key + keyOfOther(change, share);
+            int key = key(history.setOfFirst[change], change, share);
+            int both = key + key(history.setOfOthers[change], change, share);
             return both <= 0 ? 0 : amount * key / both;
         }
 
@@ -910,26 +910,16 @@ public final class PartedLand {
             int first = history.firstThatCame[change];
             int kindOfChange = history.kind[change];
             if (kindOfChange != PART && kindOfChange != FALL) return owner;
-            int more = keyOfFirst(change, share) - keyOfOther(change, share);
+            int more = key(history.setOfFirst[change], change, share) - key(history.setOfOthers[change], change, share);
             if (kindOfChange == PART) return more > 0 ? first : owner;
             return more >= 0 ? first : first + 1;
         }
 
-        /** Of a change by which a land comes: the key of the first one that comes. */
-        private int keyOfFirst(int change, int share) {
-            return key(history.held[change + 1][history.firstThatCame[change]], change, share);
-        }
-
-        /** Of a change by which a land comes: the key of those grounds that the first one has not. */
-        private int keyOfOther(int change, int share) {
-            int all = history.held[change][history.a[change]];
-            return key(all & ~history.held[change + 1][history.firstThatCame[change]], change, share);
-        }
-
+        /** Of some grounds of a land that parts or falls. */
         private int key(int set, int change, int share) {
             if (share == BY_HEADS) return history.sumOf(history.heads, set);
-            int worthOfAll = history.sumOf(history.worth, history.held[change][history.a[change]]);
-            if (share == BY_EQUAL || worthOfAll == 0) return 1;
+            int all = history.setOfFirst[change] | history.setOfOthers[change];
+            if (share == BY_EQUAL || history.sumOf(history.worth, all) == 0) return 1;
             return history.sumOf(history.worth, set);
         }
     }

@@ -8,7 +8,9 @@ import java.nio.file.Path;
 import java.util.ArrayList;
 import java.util.HashSet;
 import java.util.List;
+import java.util.Map;
 import java.util.Set;
+import java.util.TreeMap;
 import java.util.TreeSet;
 import java.util.regex.Matcher;
 import java.util.regex.Pattern;
@@ -28,6 +30,7 @@ public final class LanguageTest {
         words(code);
         library(code);
         lengths(code);
+        callsGoEightDeep(code);
         makesNothingInCalls(code);
         due.end();
     }
@@ -120,6 +123,36 @@ public final class LanguageTest {
 
     private static boolean isClassEnd(String[] lines, int i) {
         return lines[i].equals("    }") && i > 0 && lines[i - 1].equals("        }");
+    }
+
+    /** Rules 8, 11: no method calls itself, over others neither, and at most eight stand open at once. */
+    private static void callsGoEightDeep(String code) {
+        due.part("depth");
+        Map<String, Set<String>> called = new TreeMap<>();
+        Pattern header = Pattern.compile(" {4}(?: {4})?(?:\\w+ )*[\\w\\[\\]]+ (\\w+)\\(.*\\) \\{");
+        String method = "";
+        for (String line : code.split("\n")) {
+            Matcher h = header.matcher(line);
+            if (h.matches()) {
+                method = h.group(1);
+                called.computeIfAbsent(method, m -> new TreeSet<>());
+                continue;
+            }
+            Matcher call = Pattern.compile("(?<!new )\\b(\\w+)\\(").matcher(line);
+            while (!method.isEmpty() && call.find()) called.get(method).add(call.group(1));
+        }
+        due.holds("finds " + called.size() + " methods", called.size() > 80);
+        for (String one : called.keySet()) {
+            int deep = depth(one, called, 0);
+            due.holds(one + " goes " + deep + " deep", deep <= 8);
+        }
+    }
+
+    private static int depth(String method, Map<String, Set<String>> called, int open) {
+        if (open > 20 || !called.containsKey(method)) return 0;
+        int deepest = 0;
+        for (String next : called.get(method)) deepest = Math.max(deepest, depth(next, called, open + 1));
+        return deepest + 1;
     }
 
     /** Rule 12: all rows are made when the object is made. */
