@@ -106,21 +106,27 @@ abstract class Edges {
     /** All rows full: of all there is as much as the document allows. */
     static PartedLand full() {
         PartedLand x = new PartedLand();
-        for (int i = 0; i < 8; i++) due.is("ground", x.ground(i + 1, 8 - i), i);
-        for (int i = 1; i < 8; i++) due.is("part", x.change(PART, i, 0, 0, 1 << i), i);
-        due.is("join", x.change(JOIN, 8, 0, 1, 0), 0);
-        due.is("fall", x.change(FALL, 9, 0, 0, bits(0)), 8);
-        due.is("join", x.change(JOIN, 10, 8, 9, 0), 8);
-        due.is("same", x.change(SAME, 11, 8, 0, 0), 8);
-        due.is("give", x.change(GIVE, 12, 8, 2, bits(1)), 8);
-        for (int i = 0; i < 12; i++) due.is("pact", x.pact(i % 3, 0, i % 6, i % 8, 0), i);
-        for (int i = 0; i < 24; i++) due.is("word", x.word(i % 12, i % 10, i % 3 == 0, i % 2 == 0, i), i + 1);
-        for (int i = 0; i < 24; i++) due.is("voice", x.voice(i % 6, i % 10, i % 2 == 0, i), i + 1);
-        for (int i = 0; i < 8; i++) due.is("debt", x.debt(0, 100 + i, i % 2 == 0 ? NONE : i, 0), i);
-        for (int i = 0; i < 8; i++) due.is("thing", x.thing(i % 3, 10 + i, i), i);
-        for (int i = 0; i < 12; i++) due.is("served", x.served(i % 10, i % 8, (i + 3) % 8), i);
-        text(x, "clean;within 7" + " ".repeat(146));
-        due.is("bytes", x.count(3), 160);
+        tellFull(x);
+        int[] most = {8, 10, 12, 160, 12, 24, 24, 8, 8, 12};
+        for (int what = 0; what < 10; what++) due.is("most of " + what, x.count(what), most[what]);
         return x;
+    }
+
+    /** 128 calls; the last CHANGE is on DAY 12. */
+    static void tellFull(PartedLand x) {
+        for (int i = 0; i < 8; i++) x.ground(i + 1, 8 - i);
+        for (int i = 1; i < 8; i++) x.change(PART, i, 0, 0, 1 << i);
+        x.change(JOIN, 8, 0, 1, 0);
+        x.change(FALL, 9, 0, 0, bits(0));
+        x.change(JOIN, 10, 8, 9, 0);
+        x.change(SAME, 11, 8, 0, 0);
+        x.change(GIVE, 12, 8, 2, bits(1));
+        for (int i = 0; i < 12; i++) x.pact(i % 3, 0, i % 6, i % 8, 0);
+        for (int i = 0; i < 24; i++) x.word(i % 12, i % 10, i % 3 == 0, i % 2 == 0, i);
+        for (int i = 0; i < 24; i++) x.voice(i % 6, i % 10, i % 2 == 0, i);
+        for (int i = 0; i < 8; i++) x.debt(0, 100 + i, i % 2 == 0 ? NONE : i, 0);
+        for (int i = 0; i < 8; i++) x.thing(i % 3, 10 + i, i);
+        for (int i = 0; i < 12; i++) x.served(i % 10, i % 8, (i + 3) % 8);
+        text(x, "clean;within 7" + " ".repeat(146));
     }
 }
