@@ -41,6 +41,10 @@ final class Due {
         for (int number : numbers) is(call + " of " + number, ask.applyAsInt(number), want);
     }
 
+    int asked() {
+        return asked;
+    }
+
     void holds(String what, boolean good) {
         asked++;
         if (good) return;

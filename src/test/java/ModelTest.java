@@ -25,7 +25,9 @@ public final class ModelTest {
     public static void main(String[] args) {
         for (long seed = 0; seed < RUNS; seed++) {
             due.part("seed " + seed);
+            int ahead = due.asked();
             new ModelTest(seed).run();
+            due.holds("an object is used for more than 512 calls", due.asked() - ahead <= 512);
         }
         due.end();
     }

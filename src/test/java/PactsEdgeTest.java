@@ -11,6 +11,7 @@ public final class PactsEdgeTest extends Edges {
         latestOwnWord();
         latestWordOfTheThird();
         latestVoice();
+        latestIsToldFirst();
         fromTheDayOn();
         landsThatAreThere();
         byGround();
@@ -212,6 +213,31 @@ public final class PactsEdgeTest extends Edges {
         voice(x, 3, 1, false, 999);
         due.is("a day ahead of the last", x.bound(0, 998), bits(1));
         due.is("the last day", x.bound(0, 999), bits(0));
+    }
+
+    private static void latestIsToldFirst() {
+        due.sentence("On a DAY the latest of DAYS up to it counts");
+        PartedLand x = alike(2);
+        pact(x, OF_TRADE, 0, 0, 0);
+        change(x, PART, 5, 0, 0, bits(1));
+        change(x, SAME, 5, 1, 0, 0);
+        pact(x, OF_RANK, 0, 0, 0);
+        says(x, 1, false, 20);
+        says(x, 1, true, 19);
+        due.is("the first word is the latest", x.bound(0, 20), bits(0));
+        due.is("not a day ahead", x.bound(0, 19), bits(0, 1));
+        voice(x, 4, 1, true, 20);
+        voice(x, 4, 1, false, 19);
+        due.is("the first voice is the latest", x.bound(1, 20), bits(1));
+        due.is("not a day ahead", x.bound(1, 19), bits(0));
+        PartedLand y = rules(alike(2), "clean");
+        pact(y, OF_TRADE, 0, 0, 0);
+        change(y, PART, 5, 0, 0, bits(1));
+        thirdSays(y, 1, false, 20);
+        thirdSays(y, 1, true, 19);
+        says(y, 1, true, 6);
+        due.is("the third's first word is the latest", y.bound(0, 20), bits(0));
+        due.is("not a day ahead", y.bound(0, 19), bits(0, 1));
     }
 
     private static void fromTheDayOn() {

@@ -1,15 +1,5 @@
-import java.nio.charset.StandardCharsets;
-
 /** For each promise of the document: ordinary inputs, the edges that it names, wrong inputs. */
-public final class PromiseTest {
-    private static final int NONE = -1, UNKNOWN = -2, OUTSIDE = -3, NOT = -4, FULL = -5;
-    private static final int PART = 0, FALL = 1, JOIN = 2, GIVE = 3, SAME = 4;
-    private static final int OF_GROUND = 0, OF_RANK = 1, OF_TRADE = 2;
-    private static final int FIXED = 0, MOVED = 1, ABROAD = 2;
-    private static final int LOWEST = Integer.MIN_VALUE, HIGHEST = Integer.MAX_VALUE;
-
-    private static final Due due = new Due();
-
+public final class PromiseTest extends Edges {
     public static void main(String[] args) {
         constants();
         newObject();
@@ -63,25 +53,9 @@ public final class PromiseTest {
         return x;
     }
 
-    private static void write(PartedLand x, String text) {
-        byte[] bytes = text.getBytes(StandardCharsets.ISO_8859_1);
-        for (int i = 0; i < bytes.length; i += 8) {
-            long packed = 0;
-            int n = Math.min(8, bytes.length - i);
-            for (int j = 0; j < n; j++) packed |= (bytes[i + j] & 255L) << (8 * j);
-            x.write(packed, n);
-        }
-    }
-
-    private static PartedLand rule(PartedLand x, String text) {
-        write(x, text);
-        due.holds("no rules: " + text, x.rules() > 0);
-        return x;
-    }
-
     private static void faultIs(String text, int place) {
         PartedLand x = new PartedLand();
-        write(x, text);
+        text(x, text);
         due.is("fault of '" + text + "'", x.fault(), place);
         due.is("fault again", x.fault(), place);
         due.is("bytes behind fault", x.count(3), text.length());
@@ -338,12 +312,12 @@ public final class PromiseTest {
         due.part("10 erase");
         PartedLand x = new PartedLand();
         due.is("nothing", x.erase(), 0);
-        write(x, "follow;cl");
+        text(x, "follow;cl");
         due.is("nine", x.erase(), 9);
         due.is("empty", x.count(3), 0);
         due.is("empty", x.erase(), 0);
         due.is("rules stay", x.rule(2), 100);
-        write(x, "clean");
+        text(x, "clean");
         due.is("nothing of the old one", x.rules(), 1);
     }
 
@@ -399,17 +373,17 @@ public final class PromiseTest {
     private static void faultOfLines() {
         due.part("11 fault of lines");
         PartedLand x = new PartedLand();
-        write(x, "      7");
+        text(x, "      7");
         x.erase();
-        write(x, "within");
+        text(x, "within");
         due.is("what was erased is not read", x.fault(), 6);
         x.erase();
-        for (int i = 0; i < 19; i++) write(x, "        ");
-        write(x, "  within");
+        for (int i = 0; i < 19; i++) text(x, "        ");
+        text(x, "  within");
         due.is("at the end of a full text", x.fault(), 160);
         x.erase();
-        for (int i = 0; i < 19; i++) write(x, "        ");
-        write(x, "within 9");
+        for (int i = 0; i < 19; i++) text(x, "        ");
+        text(x, "within 9");
         due.is("a full text", x.fault(), NONE);
         faultIs(";", 0);
         faultIs("follow;", 7);
@@ -431,12 +405,12 @@ public final class PromiseTest {
         due.part("12 rules");
         PartedLand x = new PartedLand();
         due.is("an empty text", x.rules(), NOT);
-        write(x, "clean;within 5;share worth;pay lives;silence yes;within 6;share equal;pay born");
+        text(x, "clean;within 5;share worth;pay lives;silence yes;within 6;share equal;pay born");
         due.is("eight lines", x.rules(), 8);
         due.is("empty then", x.count(3), 0);
         int[] last = {1, 1, 6, 2, 2};
         for (int what = 0; what < 5; what++) due.is("the last line, " + what, x.rule(what), last[what]);
-        write(x, "clean;within 7;");
+        text(x, "clean;within 7;");
         due.is("a fault", x.rules(), NOT);
         due.is("text stays", x.count(3), 15);
         due.is("rules stay", x.rule(2), 6);
@@ -444,7 +418,7 @@ public final class PromiseTest {
         due.is("three lines", x.rules(), 3);
         int[] next = {0, 0, 7, 0, 0};
         for (int what = 0; what < 5; what++) due.is("without a line as at first, " + what, x.rule(what), next[what]);
-        rule(x, "follow;clean");
+        rules(x, "follow;clean");
         due.is("the last one", x.rule(0), 1);
         due.is("as at first", x.rule(2), 100);
     }
@@ -456,12 +430,12 @@ public final class PromiseTest {
         for (int what = 0; what < 5; what++) due.is("at first, " + what, x.rule(what), first[what]);
         String[] texts = {"clean", "silence yes", "within 999", "share worth", "pay lives"};
         int[] wants = {1, 1, 999, 1, 1};
-        for (int i = 0; i < 5; i++) due.is(texts[i], rule(x, texts[i]).rule(i), wants[i]);
-        due.is("share equal", rule(x, "share equal").rule(3), 2);
-        due.is("share heads", rule(x, "share equal;share heads").rule(3), 0);
-        due.is("pay born", rule(x, "pay born").rule(4), 2);
-        due.is("pay served", rule(x, "pay born;pay served").rule(4), 0);
-        due.is("silence no", rule(x, "silence yes;silence no").rule(1), 0);
+        for (int i = 0; i < 5; i++) due.is(texts[i], rules(x, texts[i]).rule(i), wants[i]);
+        due.is("share equal", rules(x, "share equal").rule(3), 2);
+        due.is("share heads", rules(x, "share equal;share heads").rule(3), 0);
+        due.is("pay born", rules(x, "pay born").rule(4), 2);
+        due.is("pay served", rules(x, "pay born;pay served").rule(4), 0);
+        due.is("silence no", rules(x, "silence yes;silence no").rule(1), 0);
         for (int what : new int[] {-1, 5, LOWEST, HIGHEST}) due.is("no such what", x.rule(what), OUTSIDE);
     }
 
@@ -672,9 +646,9 @@ public final class PromiseTest {
         due.is("goes on", x.bound(0, 6), 5);
         x.word(0, 2, false, false, 7);
         x.change(PART, 8, 2, 0, 0);
-        rule(x, "clean");
+        rules(x, "clean");
         due.is("not with clean", x.bound(0, 8), 0);
-        rule(x, "follow");
+        rules(x, "follow");
         PartedLand y = four();
         y.change(PART, 1, 0, 0, 1);
         y.pact(OF_TRADE, 0, 0, 0, 3);
@@ -706,7 +680,7 @@ public final class PromiseTest {
         PartedLand x = four();
         x.pact(OF_TRADE, 0, 0, 0, 3);
         x.change(PART, 5, 0, 0, 1);
-        rule(x, "clean;within 10;silence yes");
+        rules(x, "clean;within 10;silence yes");
         due.is("no word", x.bound(0, 5), 1);
         x.word(0, 1, false, true, 16);
         due.is("first yes too late", x.bound(0, 16), 1);
@@ -714,14 +688,14 @@ public final class PromiseTest {
         due.is("first yes in time", x.bound(0, 15), 3);
         due.is("and on", x.bound(0, 16), 3);
         due.is("ahead", x.bound(0, 14), 1);
-        rule(x, "clean;within 9;silence yes");
+        rules(x, "clean;within 9;silence yes");
         due.is("within less", x.bound(0, 16), 1);
-        rule(x, "clean;within 10");
+        rules(x, "clean;within 10");
         due.is("silence no", x.bound(0, 16), 1);
         x.word(0, 1, true, true, 20);
         due.is("the third's yes", x.bound(0, 20), 3);
         due.is("ahead of it", x.bound(0, 19), 1);
-        rule(x, "clean;within 10;silence yes");
+        rules(x, "clean;within 10;silence yes");
         x.word(0, 1, true, false, 21);
         due.is("the third's no", x.bound(0, 21), 1);
         x.word(0, 1, true, true, 22);
@@ -736,12 +710,12 @@ public final class PromiseTest {
         y.change(PART, 7, 1, 0, 1);
         y.word(0, 1, false, true, 2);
         y.word(0, 2, false, true, 9);
-        rule(y, "clean;within 0;silence yes");
+        rules(y, "clean;within 0;silence yes");
         due.is("yes ahead of its coming", y.bound(0, 5), 3);
         due.is("yes two days behind", y.bound(0, 9), 3);
-        rule(y, "clean;within 2;silence yes");
+        rules(y, "clean;within 2;silence yes");
         due.is("yes within two days", y.bound(0, 9), 7);
-        rule(y, "clean;within 1;silence yes");
+        rules(y, "clean;within 1;silence yes");
         y.pact(OF_TRADE, 0, 0, 0, 0);
         y.word(1, 2, false, true, 7);
         y.word(0, 1, false, true, 7);
@@ -855,10 +829,10 @@ public final class PromiseTest {
             due.is("heads, fall", x.owes(0, land, 1), heads[0][land]);
             due.is("heads, part", x.owes(0, land, 2), heads[1][land]);
         }
-        rule(x, "share worth");
+        rules(x, "share worth");
         int[] worth = {0, 3999, 5000, 1000};
         for (int land = 0; land < 4; land++) due.is("worth", x.owes(0, land, 2), worth[land]);
-        rule(x, "share equal");
+        rules(x, "share equal");
         int[] equal = {0, 4999, 2500, 2500};
         for (int land = 0; land < 4; land++) due.is("equal", x.owes(0, land, 2), equal[land]);
         PartedLand y = new PartedLand();
@@ -868,7 +842,7 @@ public final class PromiseTest {
         y.debt(0, 9999, NONE, 0);
         y.change(PART, 1, 0, 0, 3);
         y.change(FALL, 2, 1, 0, 1);
-        rule(y, "share worth");
+        rules(y, "share worth");
         due.is("worth nothing", y.owes(0, 1, 1), 0);
         y.debt(2, 9, NONE, 2);
         y.change(JOIN, 3, 2, 3, 0);
@@ -876,7 +850,7 @@ public final class PromiseTest {
         y.change(FALL, 4, 2, 0, 2);
         due.is("all worth 0: as equal", y.owes(2, 4, 4), 4);
         due.is("all worth 0: the rest", y.owes(2, 5, 4), 5);
-        rule(y, "share heads");
+        rules(y, "share heads");
         due.is("by heads", y.owes(2, 5, 4), 9);
     }
 
@@ -917,7 +891,7 @@ public final class PromiseTest {
         due.is("moved, no more", x.owns(1, 0, 5), 0);
         due.is("told behind the changes", x.owns(2, 3, 7), 71);
         due.is("told behind the changes", x.owns(2, 1, 6), 30);
-        due.is("by equal", rule(x, "share equal").owns(1, 1, 0), 50);
+        due.is("by equal", rules(x, "share equal").owns(1, 1, 0), 50);
         for (int t : new int[] {-1, 3, LOWEST, HIGHEST}) due.is("no thing", x.owns(t, 0, 1000), UNKNOWN);
         for (int l : new int[] {-1, 4, LOWEST, HIGHEST}) due.is("no land", x.owns(0, l, 1000), UNKNOWN);
         for (int d : new int[] {-1, 1000, LOWEST, HIGHEST}) due.is("no day", x.owns(0, 0, d), OUTSIDE);
@@ -941,11 +915,11 @@ public final class PromiseTest {
         due.is("join of another one", x.owns(0, 1, 6), 1);
         x.change(FALL, 7, 1, 0, 8);
         due.is("as many at fall: the first one", x.owns(0, 5, 7) * 10 + x.owns(0, 6, 7), 10);
-        rule(x, "share equal");
+        rules(x, "share equal");
         due.is("equal, part: a", x.owns(0, 0, 3), 1);
         due.is("equal, joined", x.owns(0, 1, 6), 1);
         due.is("equal, fall: the first one", x.owns(0, 5, 7), 1);
-        rule(x, "share worth");
+        rules(x, "share worth");
         due.is("worth, part", x.owns(0, 0, 1), 1);
         due.is("worth, part, more", x.owns(0, 2, 3), 1);
         due.is("worth, fall", x.owns(0, 3, 4), 1);
@@ -979,10 +953,10 @@ public final class PromiseTest {
         due.is("had come", x.paid(1, 5), 1);
         x.change(JOIN, 8, 2, 1, 0);
         due.is("by its heir", x.paid(1, 8), 2);
-        rule(x, "pay lives");
+        rules(x, "pay lives");
         due.is("where it lives", x.paid(0, 5) * 10 + x.paid(1, 5), 21);
         due.is("where it lives, ahead", x.paid(0, 4), 0);
-        rule(x, "pay born");
+        rules(x, "pay born");
         due.is("where it was born", x.paid(0, 5) * 10 + x.paid(1, 5), 12);
         for (int p : new int[] {-1, 2, LOWEST, HIGHEST}) due.is("no pensioner", x.paid(p, 1000), UNKNOWN);
         for (int d : new int[] {-1, 1000, LOWEST, HIGHEST}) due.is("no day", x.paid(0, d), OUTSIDE);
@@ -1065,7 +1039,7 @@ public final class PromiseTest {
         PartedLand y = four();
         y.pact(OF_TRADE, 0, 0, 0, 0);
         y.change(PART, 5, 0, 0, 3);
-        rule(y, "clean;within 10");
+        rules(y, "clean;within 10");
         y.word(0, 1, false, true, 6);
         y.word(0, 1, true, true, 6);
         due.is("of several the least", y.without(0, 1, 9, false), 1);
@@ -1101,7 +1075,7 @@ public final class PromiseTest {
         due.is("worth, a", x.burden(0, 5, 1), 100000 + 100 - 10 + 10);
         due.is("equal, new", x.burden(1, 5, 2), 100000 + 500 - 50);
         due.is("equal, a", x.burden(0, 5, 2), 100000 + 500 - 50 + 10 - 2);
-        rule(x, "share equal");
+        rules(x, "share equal");
         due.is("the rules don't matter", x.burden(1, 5, 0), 100538);
         for (int l : new int[] {-1, 2, LOWEST, HIGHEST}) due.is("no land", x.burden(l, -1, 0), UNKNOWN);
         for (int d : new int[] {-1, 1000, LOWEST, HIGHEST}) due.is("no day", x.burden(0, d, 0), OUTSIDE);
@@ -1133,7 +1107,7 @@ public final class PromiseTest {
         x.change(PART, 1, 0, 0, 7);
         x.change(FALL, 1, 1, 0, 3);
         x.change(JOIN, 2, 2, 3, 0);
-        write(x, "pay lives");
+        text(x, "pay lives");
         for (int i = 0; i < 5; i++) x.pact(OF_RANK, 0, 0, 0, 0);
         for (int i = 0; i < 6; i++) x.word(0, 0, true, true, 0);
         for (int i = 0; i < 7; i++) x.voice(0, 0, true, 0);

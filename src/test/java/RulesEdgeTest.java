@@ -10,6 +10,7 @@ public final class RulesEdgeTest extends Edges {
         ninthLine();
         semicolon();
         eachLine();
+        eachLetter();
         notALine();
         number();
         letters();
@@ -128,6 +129,25 @@ public final class RulesEdgeTest extends Edges {
             faultIs(lines[i] + ".", lines[i].length());
             faultIs(lines[i].substring(0, 2), 0);
             if (what[i] != 2) faultIs(lines[i] + lines[i], lines[i].indexOf(' ') + 1);
+        }
+    }
+
+    private static void eachLetter() {
+        due.sentence("(As written here, without points;");
+        String[] words = {"follow", "clean", "silence", "within", "share", "pay"};
+        String[] ahead = {"silence ", "silence ", "share ", "share ", "share ", "pay ", "pay ", "pay "};
+        String[] behind = {"yes", "no", "heads", "worth", "equal", "served", "lives", "born"};
+        for (String word : words) eachLetterOf("", word);
+        for (int i = 0; i < ahead.length; i++) eachLetterOf(ahead[i], behind[i]);
+    }
+
+    /** Another letter at each place, and one letter less or more. */
+    private static void eachLetterOf(String ahead, String word) {
+        for (int i = 0; i < word.length(); i++) {
+            char other = word.charAt(i) == 'z' ? 'a' : (char) (word.charAt(i) + 1);
+            faultIs(ahead + word.substring(0, i) + other + word.substring(i + 1), ahead.length());
+            faultIs(ahead + word.substring(0, i) + word.substring(i + 1), ahead.length());
+            faultIs(ahead + word.substring(0, i) + word.charAt(i) + word.substring(i), ahead.length());
         }
     }
 
