@@ -24,6 +24,7 @@ public final class GoodsEdgeTest extends Edges {
         abroadAtPart();
         abroadAtFall();
         abroadAtJoin();
+        abroadOfAnotherLand();
         keyHeads();
         keyWorth();
         keyWorthOfAllZero();
@@ -243,6 +244,18 @@ public final class GoodsEdgeTest extends Edges {
             owned(c[0] + " by " + c[1] + " and " + c[2], x, 1, 0, c[3], c[0] - c[3]);
             owed("a day ahead", x, 0, c[0], 0, 0);
         }
+        for (int other = 0; other < 3; other++) {
+            PartedLand x = alike(4);
+            debt(x, 0, 100, NONE, 0);
+            thing(x, MOVED, 100, 0);
+            change(x, PART, 1, 0, other, bits(0, 1, 2));
+            change(x, FALL, 2, 1, other, bits(0));
+            change(x, PART, 3, 3, other, bits(1));
+            owed("not of land 0", x, 2, 25, 0, 25, 50);
+            owed("part, not of land 0", x, 3, 25, 0, 25, 25, 25);
+            owned("not of land 0", x, 2, 25, 0, 25, 50);
+            owned("part, not of land 0", x, 3, 25, 0, 25, 25, 25);
+        }
     }
 
     private static void atJoin() {
@@ -376,6 +389,23 @@ public final class GoodsEdgeTest extends Edges {
         owned("give and same leave it", x, 7, 0, 1, 0, 0, 0);
         change(x, JOIN, 8, 4, 1, 0);
         owned("it joined", x, 8, 0, 0, 0, 0, 1);
+    }
+
+    private static void abroadOfAnotherLand() {
+        due.sentence("ABROAD: at PART the new LAND has it");
+        PartedLand x = alike(8);
+        thing(x, ABROAD, 0, 0);
+        change(x, PART, 1, 0, 0, bits(0, 1, 2, 3, 4));
+        change(x, PART, 2, 0, 0, bits(5, 6));
+        change(x, FALL, 3, 2, 0, bits(5));
+        owned("others part and fall", x, 3, 0, 1, 0, 0, 0);
+        change(x, PART, 4, 1, 0, bits(0, 1, 2));
+        owned("the one that has it parts", x, 4, 0, 0, 0, 0, 0, 1);
+        change(x, FALL, 5, 5, 0, bits(0));
+        owned("the one that has it falls", x, 5, 0, 0, 0, 0, 0, 0, 0, 1);
+        change(x, JOIN, 6, 0, 7, 0);
+        owned("back to land 0", x, 6, 1, 0, 0, 0, 0, 0, 0, 0);
+        owned("all days ahead stay", x, 4, 0, 0, 0, 0, 0, 1);
     }
 
     private static void keyHeads() {

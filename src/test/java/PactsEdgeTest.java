@@ -367,6 +367,9 @@ public final class PactsEdgeTest extends Edges {
         due.is("one again", x.bound(0, 20), bits(3));
         change(x, JOIN, 21, 0, 3, 0);
         due.is("who signed", x.bound(0, 21), bits(0));
+        int[] want = {3, 2, 1, 2, 3, 0};
+        int[] days = {6, 7, 8, 19, 20, 21};
+        for (int i = 0; i < 6; i++) due.is("who was there on day " + days[i], x.bound(0, days[i]), bits(want[i]));
     }
 
     private static void rankSignerNoMore() {
@@ -425,10 +428,12 @@ public final class PactsEdgeTest extends Edges {
         due.is("one behind the other on that day", x.bound(0, 5), bits(2));
         says(x, 2, false, 5);
         due.is("its no does not matter", x.bound(0, 5), bits(2));
-        rules(x, "clean;silence yes");
-        due.is("not with clean", x.bound(0, 5), 0);
-        rules(x, "follow");
-        due.is("with follow again", x.bound(0, 5), bits(2));
+        for (String silence : new String[] {"silence yes", "silence no"}) {
+            rules(x, "clean;" + silence);
+            due.is("not with clean, " + silence, x.bound(0, 5), 0);
+            rules(x, "follow;" + silence);
+            due.is("with follow again, " + silence, x.bound(0, 5), bits(2));
+        }
         PartedLand y = alike(4);
         change(y, PART, 1, 0, 0, bits(0));
         pact(y, OF_TRADE, 0, 0, 1);
