@@ -257,6 +257,18 @@ public final class RulesEdgeTest extends Edges {
         faultIs("clean..", 5);
         faultIs("clean ..", 6);
         faultIs("clean;..", 6);
+        for (int other = 33; other < 127; other++) {
+            boolean letter = other >= 'a' && other <= 'z';
+            faultIs("clean;" + (char) other, 6);
+            faultIs("clean;" + (char) other + ";clean", 6);
+            faultIs("clean;" + (char) other + "clean", 6);
+            faultIs("within 5;" + (char) other + "5;clean", 9);
+            faultIs("clean" + (char) other + "5", letter ? 0 : other == ';' ? 6 : 5);
+            faultIs("clean" + (char) other + "clean", letter ? 0 : other == ';' ? NONE : 5);
+            boolean digit = other >= '0' && other <= '9';
+            faultIs("within 5" + (char) other + "5", digit ? NONE : other == ';' ? 9 : 8);
+            faultIs("within" + (char) other + "5", digit ? NONE : letter ? 0 : 6);
+        }
     }
 
     private static void firstToken() {
