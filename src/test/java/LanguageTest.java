@@ -24,8 +24,12 @@ public final class LanguageTest {
         + "whose/2 without/4 word/5 write/2";
 
     public static void main(String[] args) throws IOException {
-        String code = withoutComments(Files.readString(Path.of("src/main/java/PartedLand.java")));
+        String source = Files.readString(Path.of("src/main/java/PartedLand.java"));
+        String code = withoutComments(source);
+        String doc = Files.readString(Path.of("../shared/DOC.md"));
         face();
+        facesLines(code, doc);
+        facesParts(source, doc);
         members();
         words(code);
         library(code);
@@ -63,6 +67,38 @@ public final class LanguageTest {
             due.holds("constructor", Modifier.isPublic(c.getModifiers()) && c.getParameterCount() == 0);
         }
         due.holds("final", Modifier.isFinal(PartedLand.class.getModifiers()));
+    }
+
+    /** Each line of the document's face stands in the class, with its types, names and numbers, and in its order. */
+    private static void facesLines(String code, String doc) {
+        due.part("the face's lines");
+        Matcher line = Pattern.compile("\n    (public [^;]*);").matcher(doc);
+        int found = 0;
+        int ahead = -1;
+        while (line.find()) {
+            found++;
+            String told = line.group(1);
+            int place = code.indexOf(told.contains("=") ? told + ";" : told + " {");
+            due.holds("stands not, or in another order: " + told, place > ahead);
+            ahead = place;
+        }
+        due.is("lines of the face", found, 1 + 1 + 28);
+    }
+
+    /** "Ahead of the calls .. the interface says: ---- ..": so says the class. */
+    private static void facesParts(String source, String doc) {
+        due.part("the face's parts");
+        Matcher part = Pattern.compile("Ahead of the calls (.*) the interface says: (---- .*)\\.").matcher(doc);
+        int found = 0;
+        while (part.find()) {
+            found++;
+            for (String call : part.group(1).split(", ")) {
+                int place = source.indexOf("    public int " + call.replace("`", "") + "(");
+                int said = source.lastIndexOf("// ---- ", place);
+                due.holds(call + " behind " + part.group(2), source.startsWith("// " + part.group(2) + "\n", said));
+            }
+        }
+        due.is("parts of the face", found, 5);
     }
 
     /** Rules 1, 5, 11. */
