@@ -32,6 +32,7 @@ public final class GoodsEdgeTest extends Edges {
         twelvePensioners();
         paidByTheHeir();
         paidByGround();
+        paidByGroundAheadOfTheLandServed();
         debt();
         owes();
         thing();
@@ -534,6 +535,23 @@ public final class GoodsEdgeTest extends Edges {
             due.is("lives, day " + day, rules(x, "pay lives").paid(0, day), lives[day - 4]);
             due.is("born, day " + day, rules(x, "pay born").paid(0, day), born[day - 4]);
             due.is("without a line, day " + day, rules(x, "follow").paid(0, day), served[day - 4]);
+        }
+    }
+
+    /** Who has a ground does not hang on whom the pensioner served: NONE is told of the heir alone. */
+    private static void paidByGroundAheadOfTheLandServed() {
+        due.sentence("or by who has where they live, or where they were born, by pay.");
+        PartedLand x = alike(4);
+        change(x, PART, 5, 0, 0, bits(0));
+        change(x, PART, 6, 0, 0, bits(3));
+        x.served(2, 0, 3);
+        int[] served = {NONE, NONE, 2};
+        int[] lives = {0, 0, 2};
+        int[] born = {0, 1, 1};
+        for (int day = 4; day < 7; day++) {
+            due.is("served, day " + day, rules(x, "pay served").paid(0, day), served[day - 4]);
+            due.is("lives, day " + day, rules(x, "pay lives").paid(0, day), lives[day - 4]);
+            due.is("born, day " + day, rules(x, "pay born").paid(0, day), born[day - 4]);
         }
     }
 
